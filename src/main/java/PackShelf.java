@@ -332,6 +332,7 @@ public final class PackShelf {
 
         void putDecimal(int number) {
             for (int unit = 1000000000; unit > 0; unit /= 10) {
+                // A number of 0 still has one digit.
                 if (number >= unit || unit == 1) {
                     put('0' + number / unit % 10);
                 }
@@ -767,7 +768,8 @@ public final class PackShelf {
         private int inRow;
 
         Writer() {
-            // The two lengths and one number of new bytes; each number more comes behind a copy, which is shorter by one.
+            // The two lengths and one number of new bytes come on top; each number more stands behind a copy,
+            // which is shorter than what it copies.
             steps = new Row(MOST_CONTENT + 3);
             before = null;
             beforeStart = 0;

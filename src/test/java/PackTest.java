@@ -19,6 +19,8 @@ public final class PackTest {
         kindsApart();
         distances();
         packAnew();
+        packTwice();
+        sixteenThings();
         alter();
         cut();
         seal();
@@ -166,6 +168,38 @@ public final class PackTest {
         CHECK.due("packed()", x.packed(), 56);
         isPack(x, PackTool.pack());
         CHECK.due("packed()", x.packed(), 32);
+    }
+
+    private static void packTwice() {
+        CHECK.part("promise 16, twice the same");
+        PackShelf x = new PackShelf();
+        PackTool.blobOf(x, "0123456789abcdef");
+        PackTool.blobOf(x, "0123456789abcdeg");
+        x.pack();
+        byte[] first = PackTool.packOf(x);
+        isPack(x, first);
+    }
+
+    private static void sixteenThings() {
+        CHECK.part("promise 16, sixteen things");
+        PackShelf x = new PackShelf();
+        byte[][] things = new byte[16][];
+        for (int i = 0; i < things.length; i++) {
+            byte[] row = new byte[64];
+            for (int k = 0; k < row.length; k++) {
+                row[k] = (byte) (k * (2 * i + 1) + i);
+            }
+            PackTool.blobOf(x, row);
+            things[i] = PackTool.whole(3, row);
+        }
+        byte[] want = PackTool.pack(things);
+        CHECK.due("pack()", x.pack(), want.length);
+        for (int i = 0; i < want.length; i += 5) {
+            CHECK.due("packByte(" + i + ")", x.packByte(i), want[i] & 255);
+        }
+        CHECK.due("all go", x.sweep(), 16);
+        CHECK.due("all come", x.unpack(), 16);
+        CHECK.due("the last byte", x.byteOf(15, 63), (byte) (63 * 31 + 15) & 255);
     }
 
     private static void alter() {

@@ -19,6 +19,7 @@ public final class StoreTest {
         entryPlaces();
         tree();
         treeWithTree();
+        treeThatIsFirst();
         treeFull();
         commit();
         commitTimes();
@@ -27,6 +28,7 @@ public final class StoreTest {
         branch();
         reached();
         reachedAnywhere();
+        reachedFull();
         sweepNumbers();
         sweepLeaves();
         noneSuch();
@@ -212,6 +214,20 @@ public final class StoreTest {
         CHECK.due("size", x.size(2), 57);
     }
 
+    /** Read from a pack, a tree stands before its blob and may have the number 0. */
+    private static void treeThatIsFirst() {
+        CHECK.part("promise 5, number 0");
+        PackShelf x = new PackShelf();
+        x.entry(0, x.blob());
+        x.tree();
+        x.pack();
+        x.sweep();
+        CHECK.due("unpack()", x.unpack(), 2);
+        CHECK.due("a blob", x.entry(0, 1), 1);
+        CHECK.due("one that is there", x.tree(), 0);
+        CHECK.due("there is no draft", x.entry(1, 1), 1);
+    }
+
     private static void treeFull() {
         CHECK.part("promise 5, full");
         PackShelf x = full();
@@ -376,6 +392,26 @@ public final class StoreTest {
         CHECK.due("no branch now", x.reached(0), false);
         CHECK.due("sweep()", x.sweep(), 4);
         CHECK.due("held", x.held(3), 0);
+    }
+
+    private static void reachedFull() {
+        CHECK.part("promise 15, sixteen things");
+        PackShelf x = new PackShelf();
+        x.tree();
+        for (int i = 0; i < 15; i++) {
+            x.commit(0, i == 0 ? -1 : i, i);
+        }
+        x.branch(0, 14);
+        for (int i = 0; i < 16; i++) {
+            CHECK.due("thing " + i, x.reached(i), i < 15);
+        }
+        x.branch(1, 15);
+        CHECK.due("the last one", x.reached(15), true);
+        CHECK.due("none goes", x.sweep(), 0);
+        x.branch(0, -1);
+        x.branch(1, 3);
+        CHECK.due("twelve go", x.sweep(), 12);
+        CHECK.due("held", x.held(1), 3);
     }
 
     private static void sweepNumbers() {

@@ -94,7 +94,8 @@ public final class UnpackTest {
 
     private static void bytesLeft() {
         CHECK.part("ENDS, bytes left over");
-        CHECK.due("one", told(PackTool.sealed(PackTool.join(PackTool.head(1), BASE_THING, new byte[1]))), PackShelf.ENDS);
+        CHECK.due("one", told(PackTool.sealed(PackTool.join(PackTool.head(1), BASE_THING, new byte[1]))),
+                PackShelf.ENDS);
         CHECK.due("of none", told(PackTool.sealed(PackTool.join(PackTool.head(0), new byte[1]))), PackShelf.ENDS);
         CHECK.due("a thing more", told(PackTool.sealed(PackTool.join(PackTool.head(1), BASE_THING, BASE_THING))),
                 PackShelf.ENDS);
@@ -109,6 +110,7 @@ public final class UnpackTest {
             byte[] longer = type == 6 ? PackTool.difference(5, new byte[30]) : PackTool.whole(type, new byte[30]);
             CHECK.due("longer, type " + type, told(PackTool.pack(longer)), due[type]);
         }
+        CHECK.due("a byte 0", told(PackTool.pack(PackTool.bytes(0))), PackShelf.TYPE);
         CHECK.due("before the mark's end", told(PackTool.pack(PackTool.bytes(128 + 64))), PackShelf.TYPE);
     }
 
@@ -170,8 +172,8 @@ public final class UnpackTest {
         byte[] more = PackTool.whole(2, new byte[119]);
         int distance = BASE_THING.length + between.length + more.length;
         byte[] back = PackTool.bytes(128, distance - 128);
-        CHECK.due("y is above 127", told(PackTool.pack(BASE_THING, between, more, PackTool.join(PackTool.mark(6, 5), back,
-                PackTool.wrap(steps)))), 4);
+        CHECK.due("y is above 127", told(PackTool.pack(BASE_THING, between, more,
+                PackTool.join(PackTool.mark(6, 5), back, PackTool.wrap(steps)))), 4);
         CHECK.due("x is 129", told(PackTool.pack(BASE_THING, between, more, PackTool.difference(distance, steps))), 4);
     }
 
