@@ -266,12 +266,11 @@ public final class StoreTest {
     private static void commitTimes() {
         CHECK.part("promise 6, times");
         int[] times = {0, 1, 9, 10, 11, 99, 100, 101, 1000, 70000, 1000000000, 999999999, 1999999999, 2000000000};
-        PackShelf x = new PackShelf();
-        x.tree();
-        for (int i = 0; i < times.length; i++) {
-            CHECK.due("commit", x.commit(0, -1, times[i]), i + 1);
-            holds(x, i + 1, PackTool.join(PackTool.text("tree "), hex(EMPTY_TREE),
-                    PackTool.text("\nat " + times[i] + "\n")));
+        for (int time : times) {
+            PackShelf x = new PackShelf();
+            x.tree();
+            CHECK.due("commit", x.commit(0, -1, time), 1);
+            holds(x, 1, PackTool.join(PackTool.text("tree "), hex(EMPTY_TREE), PackTool.text("\nat " + time + "\n")));
         }
     }
 
