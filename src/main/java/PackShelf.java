@@ -950,7 +950,7 @@ public final class PackShelf {
             int n = first & 15;
             int weight = 16;
             boolean more = first >= 128;
-            while (more && place < end) {
+            for (int left = end - place; more && left > 0; left--) {
                 int value = nextByte(pack);
                 // Held just above the limit, neither can run over however long the mark is.
                 n = Math.min(n + (value & 127) * weight, MOST_CONTENT + 1);

@@ -1,7 +1,9 @@
 import java.io.ByteArrayOutputStream;
+import java.nio.ByteBuffer;
 import java.nio.charset.StandardCharsets;
 import java.security.MessageDigest;
 import java.security.NoSuchAlgorithmException;
+import java.util.function.Supplier;
 import java.util.zip.Adler32;
 
 /** Writes packs by hand, with the Java library, and brings them into an object by its own calls. */
@@ -113,7 +115,7 @@ final class PackTool {
     static PackShelf loaded(byte[] pack) {
         PackShelf x = new PackShelf();
         int calls = 0;
-        for (int i = 0; x.pack() < pack.length; i++) {
+        for (int i = 0; i < 16 && x.pack() < pack.length; i++) {
             byte[] filler = repeat(200 + i, 24);
             for (int k = 0; k < filler.length; k++) {
                 filler[k] += (byte) (k * (i + 1));
@@ -134,6 +136,50 @@ final class PackTool {
             throw new IllegalStateException("too few calls are left");
         }
         return x;
+    }
+
+    static byte[] contentOf(PackShelf x, int thing) {
+        byte[] row = new byte[Math.max(0, x.size(thing))];
+        for (int i = 0; i < row.length; i++) {
+            row[i] = (byte) x.byteOf(thing, i);
+        }
+        return row;
+    }
+
+    /** The twenty bytes of a name. */
+    static byte[] nameOf(PackShelf x, int thing) {
+        ByteBuffer row = ByteBuffer.allocate(20);
+        for (int k = 0; k < 5; k++) {
+            row.putInt(x.name(thing, k));
+        }
+        return row.array();
+    }
+
+    /** The name that a thing of that kind must have. */
+    static byte[] nameOf(int kind, byte[] content) {
+        String[] words = {"commit", "tree", "blob"};
+        return sha(join(text(words[kind - 1] + " " + content.length + "\0"), content));
+    }
+
+    /** Bytes that have no row of four in common with those of another seed, nor twice in themselves. */
+    static byte[] mixed(int seed, int n) {
+        byte[] row = new byte[n];
+        for (int i = 0; i < n; i++) {
+            row[i] = (byte) (i * (2 * seed + 1) + seed);
+        }
+        return row;
+    }
+
+    /** The pack of an object that is made anew for each hundred bytes, so that its calls are enough. */
+    static byte[] packOf(Supplier<PackShelf> maker) {
+        byte[] row = new byte[maker.get().packed()];
+        for (int i = 0; i < row.length;) {
+            PackShelf x = maker.get();
+            for (int end = Math.min(row.length, i + 100); i < end; i++) {
+                row[i] = (byte) x.packByte(i);
+            }
+        }
+        return row;
     }
 
     static byte[] packOf(PackShelf x) {
