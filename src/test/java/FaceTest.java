@@ -28,7 +28,38 @@ public final class FaceTest {
         check.due("constructors", constructors.length, 1);
         check.due("parameters", constructors[0].getParameterCount(), 0);
         check.due("public constructor", Modifier.isPublic(constructors[0].getModifiers()), true);
+        inside(check);
         check.end();
+    }
+
+    /** Rules 1, 5 and 11 of LANGUAGE.md, as far as they can be seen from here. */
+    private static void inside(Check check) {
+        Class<?>[] classes = PackShelf.class.getDeclaredClasses();
+        check.due("at most twelve classes", classes.length < 12, true);
+        noStaticState(check, PackShelf.class);
+        for (Class<?> one : classes) {
+            int kind = one.getModifiers();
+            check.due(one.getName() + " is static", Modifier.isStatic(kind), true);
+            check.due(one.getName() + " is not public", Modifier.isPublic(kind) || Modifier.isProtected(kind), false);
+            noStaticState(check, one);
+        }
+        Set<String> names = new TreeSet<>();
+        for (String method : METHODS) {
+            names.add(method.substring(method.indexOf(' ') + 1, method.indexOf('(')));
+        }
+        for (Method method : PackShelf.class.getDeclaredMethods()) {
+            if (Modifier.isPrivate(method.getModifiers())) {
+                check.due("a private " + method.getName(), names.contains(method.getName()), false);
+            }
+        }
+    }
+
+    private static void noStaticState(Check check, Class<?> one) {
+        for (Field field : one.getDeclaredFields()) {
+            int kind = field.getModifiers();
+            check.due(one.getName() + "." + field.getName() + " is final if it is static",
+                    Modifier.isFinal(kind) || !Modifier.isStatic(kind), true);
+        }
     }
 
     private static void same(Check check, String what, Set<String> got, String[] want) {
