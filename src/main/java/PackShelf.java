@@ -607,14 +607,11 @@ public final class PackShelf {
                 reach(holds[b]);
             }
             for (int next = 0; next < queued && next < MOST_THINGS; next++) {
-                reachFrom(things[queue[next]]);
-            }
-        }
-
-        private void reachFrom(Thing thing) {
-            for (int i = 0; i < count; i++) {
-                if (!isReached[i] && thing.refersTo(things[i])) {
-                    reach(i);
+                Thing from = things[queue[next]];
+                for (int i = 0; i < count; i++) {
+                    if (!isReached[i] && from.refersTo(things[i])) {
+                        reach(i);
+                    }
                 }
             }
         }
@@ -702,9 +699,8 @@ public final class PackShelf {
         }
 
         private static int alike(Row x, int from, Row y, int place) {
-            int most = Math.min(x.length - from, y.length - place);
             int n = 0;
-            while (n < most && x.bytes[from + n] == y.bytes[place + n]) {
+            while (from + n < x.length && place + n < y.length && x.bytes[from + n] == y.bytes[place + n]) {
                 n++;
             }
             return n;
